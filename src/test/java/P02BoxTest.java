@@ -1,0 +1,158 @@
+/** Promise 2: box. */
+final class P02BoxTest {
+    public static void main(String[] args) {
+        texts();
+        longest();
+        cellsFromWithin();
+        codesOfInts();
+        makesAllAnew();
+        changesNothingIfNotTaken();
+        refusalsAndFaults();
+        greaterAndLesserBoxes();
+        Check.end();
+    }
+
+    private static void text(String text, int due) {
+        NutsUp x = new NutsUp();
+        Check.dueFault(x, "box \"" + text + "\"", Check.box(x, text), due, 0);
+        Check.due("many(0)", x.many(0), due > 0 ? due : 0);
+    }
+
+    private static void texts() {
+        text("g11;g22", 2);
+        text("g99;g99", 2);
+        text("g11l;g22lo;g33", 3);
+        text("", -100);
+        text("g", -101);
+        text("g1", -102);
+        text("g11", -103);
+        text("g11l", -104);
+        text("g11lo", -105);
+        text("g11;", -104);
+        text("g11;g22;", -108);
+        text("g11;g2", -106);
+        text("x", -100);
+        text("l11;g22", -100);
+        text(";g11;g22", -100);
+        text("g01;g22", -101);
+        text("gg1;g22", -101);
+        text("g:1;g22", -101);
+        text("g10;g22", -102);
+        text("g1:;g22", -102);
+        text("g1/;g22", -102);
+        text("g11o;g22", -103);
+        text("g111;g22", -103);
+        text("g11g22", -103);
+        text("g11ll;g22", -104);
+        text("g11l1;g22", -104);
+        text("g11lol;g22", -105);
+        text("g11loo;g22", -105);
+        text("g11lo1;g22", -105);
+        text("g11;;g22", -104);
+        text("g11;g22;g33;g44;g55;g66;g77", 7);
+        text("g11;g22;g33;g44;g55;g66;g77;", -127);
+        text("g11;g22;g33;g44;g55;g66;g77;g88", -127);
+        text("g11;g22;g33;g44;g55;g66;g77l;", -128);
+    }
+
+    private static void longest() {
+        String seven = Check.repeated("g91lo", 7, ";");
+        text(seven, 7);
+        text(seven + ";", -141);
+        text(seven + "l", -141);
+    }
+
+    private static void cellsFromWithin() {
+        NutsUp x = new NutsUp();
+        Check.row(x, 1, 1, Check.codes("xxg11;g22yy"));
+        Check.due("box(1, 1, 2, 7)", x.box(1, 1, 2, 7), 2);
+        Check.due("box(1, 1, 2, 8)", x.box(1, 1, 2, 8), -107);
+        Check.due("box(1, 1, 1, 8)", x.box(1, 1, 1, 8), -100);
+        Check.due("box(1, 1, 11, 0)", x.box(1, 1, 11, 0), -100);
+        Check.due("box(1, 1, 6, 3)", x.box(1, 1, 6, 3), -103);
+    }
+
+    private static void codesOfInts() {
+        NutsUp x = new NutsUp();
+        Check.row(x, 0, 2, 103 + 65536, 49, 49, 59, 103, 50, 50);
+        Check.due("box with a code beyond", x.box(0, 2, 0, 7), -100);
+        x.put(0, 0, 103);
+        x.put(0, 1, 49 - 256);
+        Check.due("box with a code below", x.box(0, 2, 0, 7), -101);
+        x.put(0, 1, 49);
+        Check.due("box of ints", x.box(0, 2, 0, 7), 2);
+        Check.row(x, 0, 0, 103 + 256, 49, 49, 59, 103, 50, 50);
+        Check.due("box of bytes that were cut", x.box(0, 0, 0, 7), 2);
+    }
+
+    private static void makesAllAnew() {
+        NutsUp x = Check.nuts("g11;g22;g33", "f11", "h11");
+        x.use(1);
+        x.lay(4);
+        x.shake(1, 3);
+        x.reading(0, 0);
+        x.tell(0);
+        int trace = x.trace();
+        Check.row(x, 2, 1, 7);
+        Check.due("box anew", Check.box(x, "g44;g55;g66"), 3);
+        Check.due("lie()", x.lie(), 0);
+        Check.due("many(3)", x.many(3), 0);
+        Check.due("many(4)", x.many(4), 0);
+        Check.due("many(2)", x.many(2), 2);
+        Check.due("many(5)", x.many(5), 1);
+        Check.due("trace()", x.trace(), trace);
+        Check.due("cell(2, 0, 1)", x.cell(2, 0, 1), 7);
+        Check.due("ofGrain(0, 1)", x.ofGrain(0, 1), 4);
+    }
+
+    private static void changesNothingIfNotTaken() {
+        NutsUp x = Check.nuts("g11;g22;g33", "f11");
+        x.lay(4);
+        x.reading(0, 0);
+        x.shake(1, 1);
+        int lie = x.lie();
+        Check.due("box that is not taken", Check.box(x, "g44;g55;g66;"), -112);
+        Check.due("lie()", x.lie(), lie);
+        Check.due("many(0)", x.many(0), 3);
+        Check.due("many(3)", x.many(3), 1);
+        Check.due("many(4)", x.many(4), 1);
+        Check.due("ofGrain(0, 1)", x.ofGrain(0, 1), 1);
+    }
+
+    private static void refusalsAndFaults() {
+        NutsUp x = new NutsUp();
+        Check.row(x, 0, 0, Check.codes("g11;g22"));
+        Check.dueFault(x, "box(1, 0, 0, -1)", x.box(1, 0, 0, -1), -11, 1);
+        Check.dueFault(x, "box(-1, 3, 0, 7)", x.box(-1, 3, 0, 7), -1, 0);
+        Check.dueFault(x, "box(4, 0, 0, 7)", x.box(4, 0, 0, 7), -1, 0);
+        Check.dueFault(x, "box(0, -1, 0, 7)", x.box(0, -1, 0, 7), -2, 0);
+        Check.dueFault(x, "box(0, 3, 0, -1)", x.box(0, 3, 0, -1), -2, 0);
+        Check.dueFault(x, "box(1, 3, 0, 7)", x.box(1, 3, 0, 7), -2, 0);
+        Check.dueFault(x, "box(0, 1, 0, -1)", x.box(0, 1, 0, -1), -12, 2);
+        Check.dueFault(x, "box(0, 2, 99, 7)", x.box(0, 2, 99, 7), -12, 2);
+        Check.dueFault(x, "box(1, 2, 99, 7)", x.box(1, 2, 99, 7), -11, 1);
+        Check.dueFault(x, "box(0, 0, -1, -1)", x.box(0, 0, -1, -1), -14, 4);
+        Check.dueFault(x, "box(0, 0, 0, MIN)", x.box(0, 0, 0, Integer.MIN_VALUE), -14, 4);
+        Check.dueFault(x, "box(0, 0, -1, 0)", x.box(0, 0, -1, 0), -13, 3);
+        Check.dueFault(x, "box(0, 0, 8, 0)", x.box(0, 0, 8, 0), -13, 3);
+        Check.dueFault(x, "box(0, 0, 7, 0)", x.box(0, 0, 7, 0), -100, 0);
+        Check.dueFault(x, "box(0, 0, 0, 8)", x.box(0, 0, 0, 8), -13, 3);
+        Check.dueFault(x, "box(0, 0, 1, MAX)", x.box(0, 0, 1, Integer.MAX_VALUE), -13, 3);
+        Check.dueFault(x, "box(0, 0, MAX, MAX)", x.box(0, 0, Integer.MAX_VALUE, Integer.MAX_VALUE), -13, 3);
+        Check.due("many(0)", x.many(0), 0);
+        Check.dueFault(x, "box(0, 0, 0, 7)", x.box(0, 0, 0, 7), 2, 0);
+    }
+
+    private static void greaterAndLesserBoxes() {
+        NutsUp x = Check.nuts("g11;g22;g33;g44", "f11");
+        Check.due("next(23, 1)", x.next(23, 1), 13);
+        Check.box(x, "g11;g22");
+        Check.due("next(1, 1) of 2", x.next(1, 1), 0);
+        Check.box(x, "g22;g11");
+        Check.due("next(1, 1) of 2, the other way about", x.next(1, 1), 1);
+        Check.due("next(0, 1) of 2, the other way about", x.next(0, 1), 1);
+        Check.box(x, "g11;g22;g33;g44");
+        Check.due("next(23, 1) of 4 again", x.next(23, 1), 13);
+        Check.due("of(23, 0)", x.of(23, 0), 3);
+    }
+}

@@ -1,0 +1,65 @@
+/** Promise 19: boss. */
+final class P19BossTest {
+    public static void main(String[] args) {
+        oneIsNeeded();
+        severalAreNeeded();
+        oneHinders();
+        theOneThatMattersMost();
+        refusals();
+        Check.end();
+    }
+
+    private static void oneIsNeeded() {
+        NutsUp x = Check.nuts("g11;g22", "f11;h11");
+        Check.due("boss(1, 1, 1)", x.boss(1, 1, 1), 0);
+        Check.due("boss(0, 0, 1)", x.boss(0, 0, 1), 1);
+        Check.due("boss(1, 0, 1) on top", x.boss(1, 0, 1), -9);
+        NutsUp y = Check.nuts("g11;g22", "f12;f13");
+        Check.due("boss(1, 1, 1) of too HARD ones", y.boss(1, 1, 1), -9);
+        Check.due("boss(1, 1, 2) of one", y.boss(1, 1, 2), 0);
+        Check.due("boss(1, 1, 3) where either does it", y.boss(1, 1, 3), -9);
+    }
+
+    /** 0 rises past 1 by its HEFT, past 2 by its BULK; without either it never is on top. */
+    private static void severalAreNeeded() {
+        NutsUp x = Check.nuts("g31;g29;g11", "h81;f21", "f21;h81", "a11;f21;h81");
+        for (int l = 0; l < 2; l++) {
+            x.use(l);
+            Check.due("soon(0, 0, 1)", x.soon(0, 0, 1), 1);
+            Check.due("boss(0, 0, 1)", x.boss(0, 0, 1), 0);
+        }
+    }
+
+    /** A CAUSE that holds it: without it SOON is 1, with it NONE. */
+    private static void oneHinders() {
+        NutsUp x = Check.nuts("g11;g22", "n01;f11;h91");
+        Check.due("soon(1, 1, 1)", x.soon(1, 1, 1), -9);
+        Check.due("boss(1, 1, 1)", x.boss(1, 1, 1), 0);
+        Check.due("boss(0, 0, 1)", x.boss(0, 0, 1), -9);
+    }
+
+    /** From 2, 1, 0 grain 2 needs f (a SHAKE); h holds nothing; t makes it later for a while. */
+    private static void theOneThatMattersMost() {
+        NutsUp x = Check.nuts("g11l;g29;g31", "t91;f11");
+        // 2, 0, 1: f: 0, 2, 1 -> 0, 1, 2; without f it never rises.
+        Check.due("soon(2, 4, 1)", x.soon(2, 4, 1), 1);
+        Check.due("boss(2, 4, 1)", x.boss(2, 4, 1), 1);
+        // 0, 1, 2: t: 1, 0, 2 -> 1, 2, 0: 0 is on top only by t.
+        Check.due("soon(0, 0, 1)", x.soon(0, 0, 1), 1);
+        Check.due("boss(0, 0, 1)", x.boss(0, 0, 1), 0);
+    }
+
+    private static void refusals() {
+        NutsUp x = Check.nuts("g11;g22");
+        Check.due("boss(1, 0, 1) without a LAW", x.boss(1, 0, 1), -3);
+        Check.due("boss(1, 0, 0) without a LAW", x.boss(1, 0, 0), -2);
+        Check.law(x, "f11");
+        Check.due("boss(2, 0, 0)", x.boss(2, 0, 0), -1);
+        Check.due("boss(-1, 0, 1)", x.boss(-1, 0, 1), -1);
+        Check.due("boss(0, 2, 1)", x.boss(0, 2, 1), -1);
+        Check.due("boss(0, -1, 1)", x.boss(0, -1, 1), -1);
+        Check.due("boss(0, 0, 0)", x.boss(0, 0, 0), -2);
+        Check.due("boss(0, 0, 4)", x.boss(0, 0, 4), -2);
+        Check.due("boss(0, 0, 1) without a BOX", new NutsUp().boss(0, 0, 1), -1);
+    }
+}

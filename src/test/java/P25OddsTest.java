@@ -1,0 +1,56 @@
+/** Promise 25: odds. */
+final class P25OddsTest {
+    public static void main(String[] args) {
+        NutsUp x = Check.nuts("g11;g22;g33", "f12");
+        for (int g = 0; g < 3; g++) {
+            share(x, g, 0, 2, 1, 3);
+            share(x, g, 99, 1, 1, 3);
+            share(x, g, 1, 2, g == 2 ? 1 : 0, 1);
+            share(x, g, 99, 3, g == 2 ? 1 : 0, 1);
+        }
+        partly();
+        seven();
+        refusals(x);
+        Check.end();
+    }
+
+    private static void share(NutsUp x, int g, int k, int hard, long upper, long lower) {
+        String told = "odds(" + g + ", " + k + ", " + hard + ", ";
+        Check.due(told + "0)", x.odds(g, k, hard, 0), upper);
+        Check.due(told + "1)", x.odds(g, k, hard, 1), lower);
+    }
+
+    /** Only 0 and 2 CHANGE: 2 rises past 0; all else stays. */
+    private static void partly() {
+        NutsUp x = Check.nuts("g11;g22;g33", "f21");
+        share(x, 0, 1, 1, 1, 6);
+        share(x, 1, 1, 1, 1, 3);
+        share(x, 2, 1, 1, 1, 2);
+        share(x, 0, 50, 1, 1, 6);
+        share(x, 1, 50, 1, 1, 3);
+        share(x, 2, 50, 1, 1, 2);
+    }
+
+    private static void seven() {
+        NutsUp x = Check.nuts("g11;g21;g31;g41;g51;g61;g71", "f11");
+        share(x, 6, 0, 1, 1, 7);
+        share(x, 6, 99, 1, 1, 1);
+        share(x, 0, 99, 1, 0, 1);
+    }
+
+    private static void refusals(NutsUp x) {
+        long lost = Check.LOST;
+        Check.due("odds(3, 0, 1, 0)", x.odds(3, 0, 1, 0), lost);
+        Check.due("odds(-1, 0, 1, 0)", x.odds(-1, 0, 1, 0), lost);
+        Check.due("odds(0, -1, 1, 0)", x.odds(0, -1, 1, 0), lost);
+        Check.due("odds(0, 100, 1, 0)", x.odds(0, 100, 1, 0), lost);
+        Check.due("odds(0, 0, 0, 0)", x.odds(0, 0, 0, 0), lost);
+        Check.due("odds(0, 0, 4, 0)", x.odds(0, 0, 4, 0), lost);
+        Check.due("odds(0, 0, 1, -1)", x.odds(0, 0, 1, -1), lost);
+        Check.due("odds(0, 0, 1, 2)", x.odds(0, 0, 1, 2), lost);
+        Check.due("odds(0, 0, 1, 0) without a LAW", Check.nuts("g11;g22").odds(0, 0, 1, 0), lost);
+        NutsUp y = new NutsUp();
+        Check.law(y, "f11");
+        Check.due("odds(0, 0, 1, 0) without a BOX", y.odds(0, 0, 1, 0), lost);
+    }
+}

@@ -1,0 +1,60 @@
+/** Promise 29: which. */
+final class P29WhichTest {
+    public static void main(String[] args) {
+        byLaws();
+        refusalsAndFaults();
+        Check.end();
+    }
+
+    private static void byLaws() {
+        NutsUp x = Check.nuts("g11;g22;g33");
+        Check.row(x, 0, 0, 1, 3, 3, 2);
+        Check.dueFault(x, "which without a LAW", x.which(5, 5, 0, 0, 0, 1), 0, 0);
+        String[] laws = {"f11", "n01", "h11", "f13"};
+        for (String law : laws) {
+            Check.law(x, law);
+        }
+        Check.due("which 5 to 2 by 1", x.which(5, 2, 0, 0, 0, 1), 1);
+        Check.due("which 5 to 5 by 1", x.which(5, 5, 0, 0, 0, 1), 14);
+        Check.due("which 5 to 2 by 3", x.which(5, 2, 0, 0, 1, 1), 9);
+        Check.due("which 5 to 5 by none", x.which(5, 5, 0, 0, 4, 0), 15);
+        Check.due("which 5 to 0 by none", x.which(5, 0, 0, 0, 0, 0), 0);
+        Check.due("which 5 to 0 by 1, 3", x.which(5, 0, 0, 0, 0, 2), 1);
+        Check.due("which 5 to 2 by 1, 3", x.which(5, 2, 0, 0, 0, 2), 8);
+        Check.due("which 5 to 0 by 1, 3, 3, 2", x.which(5, 0, 0, 0, 0, 4), 9);
+        Check.due("which 0 to 5 by 3, 2", x.which(0, 5, 0, 0, 2, 2), 4);
+        Check.due("lie() as it was", x.lie(), 0);
+        Check.due("many(5) as it was", x.many(5), 0);
+        Check.due("many(4)", x.many(4), 0);
+        int[] sixty = new int[60];
+        java.util.Arrays.fill(sixty, 2);
+        Check.row(x, 2, 2, sixty);
+        Check.due("which 5 to 0 by 60", x.which(5, 0, 2, 2, 0, 60), 1);
+    }
+
+    private static void refusalsAndFaults() {
+        NutsUp x = Check.nuts("g11;g22", "f11");
+        Check.row(x, 0, 1, 1, 2, 3, 0, 4);
+        Check.dueFault(x, "which of nothing", x.which(0, 0, 1, 1, 0, 1), -11, 1);
+        Check.dueFault(x, "which, SHEET 4", x.which(0, 0, 4, 3, 0, 1), -1, 0);
+        Check.dueFault(x, "which, SHEET -1", x.which(0, 0, -1, 1, 0, 1), -1, 0);
+        Check.dueFault(x, "which, LIE 2", x.which(2, 0, 0, 3, 0, 1), -1, 0);
+        Check.dueFault(x, "which, LIE -1", x.which(-1, 0, 0, 1, 0, 1), -1, 0);
+        Check.dueFault(x, "which to LIE 2", x.which(0, 2, 0, 1, 0, 1), -1, 0);
+        Check.dueFault(x, "which to LIE -1", x.which(0, -1, 0, 0, 0, 1), -1, 0);
+        Check.dueFault(x, "which, SORT 3", x.which(0, 0, 0, 3, 0, -1), -2, 0);
+        Check.dueFault(x, "which, SORT -1", x.which(0, 0, 1, -1, 0, 1), -2, 0);
+        Check.dueFault(x, "which, another SORT", x.which(0, 0, 0, 0, 0, -1), -12, 2);
+        Check.dueFault(x, "which of nothing, too few", x.which(0, 0, 1, 1, 0, -1), -11, 1);
+        Check.dueFault(x, "which, n below 0", x.which(0, 0, 0, 1, -1, -1), -14, 4);
+        Check.dueFault(x, "which, i below 0", x.which(0, 0, 0, 1, -1, 0), -13, 3);
+        Check.dueFault(x, "which, i beyond", x.which(0, 0, 0, 1, 6, 0), -13, 3);
+        Check.dueFault(x, "which, n beyond", x.which(0, 0, 0, 1, 3, 3), -13, 3);
+        Check.dueFault(x, "which, HARD 0", x.which(0, 0, 0, 1, 2, 2), -2, 0);
+        Check.dueFault(x, "which, HARD 4", x.which(0, 0, 0, 1, 4, 1), -2, 0);
+        Check.dueFault(x, "which", x.which(1, 0, 0, 1, 0, 3), 1, 0);
+        NutsUp none = new NutsUp();
+        Check.row(none, 0, 0, 1);
+        Check.dueFault(none, "which without a BOX", none.which(0, 0, 0, 0, 0, 1), -1, 0);
+    }
+}
