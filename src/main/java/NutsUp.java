@@ -11,6 +11,8 @@ public final class NutsUp {
     private static final int TURNING = 4, SPOONING = 5, MOST_PLANNED = 9;
     private static final int MOST_READINGS = 8, LAST_FITTING = 30, MOST_MIX = 99;
     private static final int SHEETS = 4, MOST_CELLS = 60, BYTES = 0, SHORTS = 1, SORTS = 3;
+    /** What cells have in the stead of a refusal, if there is none. */
+    private static final int TAKEN = 0;
     /** What a TEXT without a FIRST FAULT has in its stead. */
     private static final int WHOLE = -1;
     /** What SOON counts as where it is NONE. */
@@ -47,23 +49,16 @@ public final class NutsUp {
     // ---- 1 the box
 
     public int box(int sheet, int sort, int i, int n) {
-        latestFault = NO_FAULT;
-        if (noSheet(sheet)) {
-            return UNKNOWN;
+        int refusal = refusalOfCells(sheet, sort, i, n);
+        if (refusal != TAKEN) {
+            return refusal;
         }
-        if (noSort(sort)) {
-            return OUTSIDE;
-        }
-        Sheet text = sheets[sheet];
-        int fault = faultOfCells(text, sort, i, n);
-        if (fault != NO_FAULT) {
-            return faulted(fault);
-        }
-        int firstFault = Box.firstFault(text.cells, i, n);
+        int[] cells = sheets[sheet].cells;
+        int firstFault = Box.firstFault(cells, i, n);
         if (firstFault != WHOLE) {
             return -100 - firstFault;
         }
-        box.fill(text.cells, i, n);
+        box.fill(cells, i, n);
         widenRows();
         lieNow = 0;
         readings = 0;
@@ -118,26 +113,19 @@ public final class NutsUp {
     // ---- 2 laws, shakes
 
     public int law(int sheet, int sort, int i, int n) {
-        latestFault = NO_FAULT;
-        if (noSheet(sheet)) {
-            return UNKNOWN;
+        int refusal = refusalOfCells(sheet, sort, i, n);
+        if (refusal != TAKEN) {
+            return refusal;
         }
-        if (noSort(sort)) {
-            return OUTSIDE;
-        }
-        Sheet text = sheets[sheet];
-        int fault = faultOfCells(text, sort, i, n);
-        if (fault != NO_FAULT) {
-            return faulted(fault);
-        }
-        int firstFault = Law.firstFault(text.cells, i, n);
+        int[] cells = sheets[sheet].cells;
+        int firstFault = Law.firstFault(cells, i, n);
         if (firstFault != WHOLE) {
             return -100 - firstFault;
         }
         if (lawCount >= MOST_LAWS) {
             return FULL;
         }
-        laws[lawCount] = new Law(text.cells, i, n);
+        laws[lawCount] = new Law(cells, i, n);
         lawCount++;
         return lawCount - 1;
     }
@@ -198,19 +186,12 @@ public final class NutsUp {
     }
 
     public int doing(int sheet, int sort, int i, int n) {
-        latestFault = NO_FAULT;
-        if (noSheet(sheet)) {
-            return UNKNOWN;
+        int refusal = refusalOfCells(sheet, sort, i, n);
+        if (refusal != TAKEN) {
+            return refusal;
         }
-        if (noSort(sort)) {
-            return OUTSIDE;
-        }
-        Sheet row = sheets[sheet];
-        int fault = faultOfCells(row, sort, i, n);
-        if (fault != NO_FAULT) {
-            return faulted(fault);
-        }
-        if (!allHard(row.cells, i, n)) {
+        int[] cells = sheets[sheet].cells;
+        if (!allHard(cells, i, n)) {
             return OUTSIDE;
         }
         Law law = lawInForce();
@@ -219,7 +200,7 @@ public final class NutsUp {
         }
         int changes = 0;
         for (int s = 0; s < n; s++) {
-            changes += shakeOnce(law, row.cells[i + s]);
+            changes += shakeOnce(law, cells[i + s]);
         }
         return changes;
     }
@@ -475,25 +456,22 @@ public final class NutsUp {
 
     public int which(int a, int b, int sheet, int sort, int i, int n) {
         latestFault = NO_FAULT;
-        if (noSheet(sheet) || noLie(a) || noLie(b)) {
+        if (noLie(a) || noLie(b)) {
             return UNKNOWN;
         }
-        if (noSort(sort)) {
-            return OUTSIDE;
+        int refusal = refusalOfCells(sheet, sort, i, n);
+        if (refusal != TAKEN) {
+            return refusal;
         }
-        Sheet row = sheets[sheet];
-        int fault = faultOfCells(row, sort, i, n);
-        if (fault != NO_FAULT) {
-            return faulted(fault);
-        }
-        if (!allHard(row.cells, i, n)) {
+        int[] cells = sheets[sheet].cells;
+        if (!allHard(cells, i, n)) {
             return OUTSIDE;
         }
         int set = 0;
         for (int l = 0; l < lawCount; l++) {
             int now = a;
             for (int s = 0; s < n; s++) {
-                now = motionOf(laws[l], row.cells[i + s]).after(box, now);
+                now = motionOf(laws[l], cells[i + s]).after(box, now);
             }
             if (now == b) {
                 set |= 1 << l;
@@ -569,21 +547,7 @@ public final class NutsUp {
     }
 
     public long cell(int k, int i, int sort) {
-        latestFault = NO_FAULT;
-        if (noSheet(k) || noSort(sort)) {
-            return LOST;
-        }
-        Sheet sheet = sheets[k];
-        if (sheet.held && sheet.sort != sort) {
-            latestFault = CAST_FAULT;
-        } else if (!sheet.held) {
-            latestFault = NULL_FAULT;
-        } else if (i < 0 || i >= sheet.length) {
-            latestFault = INDEX_FAULT;
-        } else {
-            return sheet.cells[i];
-        }
-        return LOST;
+        return refusalOfCells(k, sort, i, 1) == TAKEN ? sheets[k].cells[i] : LOST;
     }
 
     public int copy(int k, int i, int other, int j, int n) {
@@ -682,17 +646,26 @@ public final class NutsUp {
         return sort < 0 || sort >= SORTS;
     }
 
-    private static int faultOfCells(Sheet sheet, int sort, int i, int n) {
-        if (sheet.held && sheet.sort != sort) {
-            return CAST_FAULT;
+    /** What n cells of a SHEET from i on, taken as a row of a SORT, are refused with, or their FAULT is answered by. */
+    private int refusalOfCells(int k, int sort, int i, int n) {
+        latestFault = NO_FAULT;
+        if (noSheet(k)) {
+            return UNKNOWN;
         }
-        if (!sheet.held) {
-            return NULL_FAULT;
+        if (noSort(sort)) {
+            return OUTSIDE;
+        }
+        Sheet row = sheets[k];
+        if (row.held && row.sort != sort) {
+            return faulted(CAST_FAULT);
+        }
+        if (!row.held) {
+            return faulted(NULL_FAULT);
         }
         if (n < 0) {
-            return SIZE_FAULT;
+            return faulted(SIZE_FAULT);
         }
-        return sheet.hasNot(i, n) ? INDEX_FAULT : NO_FAULT;
+        return row.hasNot(i, n) ? faulted(INDEX_FAULT) : TAKEN;
     }
 
     private int faulted(int fault) {
@@ -730,7 +703,9 @@ public final class NutsUp {
     private Motion motionOf(Law law, int hard) {
         Motion motion = law.motions[hard - 1];
         if (motion.boxNumber != box.number) {
-            motion.renew(box, law, hard);
+            motion.boxNumber = box.number;
+            motion.rule.learn(box, law, hard, NONE);
+            motion.forget(box.lies);
         }
         return motion;
     }
@@ -773,7 +748,7 @@ public final class NutsUp {
         return NONE;
     }
 
-    /** At powers of two: however long the way and its round are, some mark is in the round and kept until it comes again. */
+    /** At powers of two: however long way and round are, some mark is in the round and kept until it comes again. */
     private static boolean isTimeToMark(int step) {
         return (step & (step - 1)) == 0;
     }
@@ -843,7 +818,7 @@ public final class NutsUp {
         return true;
     }
 
-    /** The GRAINS and their LIES. A row is one number: three bits for each PLACE, the lowest PLACE in the lowest bits. */
+    /** The GRAINS and their LIES. A row is one number: three bits a PLACE, the lowest PLACE in the lowest bits. */
     private static final class Box {
         /** The row of all seven GRAINS by their numbers. */
         static final int IN_ORDER = (1 << 3) | (2 << 6) | (3 << 9) | (4 << 12) | (5 << 15) | (6 << 18);
@@ -869,7 +844,7 @@ public final class NutsUp {
             return state >= 3 && whole >= FEWEST_GRAINS ? WHOLE : n;
         }
 
-        /** States: 0 ahead of g, 1 ahead of the SIZE, 2 ahead of the WEIGHT, 3 behind it, 4 behind l, 5 behind o; -1: a fault. */
+        /** 0 is ahead of g, 1 of the SIZE, 2 of the WEIGHT, 3 behind it, 4 behind l, 5 behind o; -1: a fault. */
         private static int stateBehind(int state, int code, int whole) {
             if (state == 0) {
                 return code == 'g' ? 1 : -1;
@@ -1109,7 +1084,7 @@ public final class NutsUp {
                 case NEAR_TOP:
                     return place >= digit;
                 default:
-                    return Math.abs(x.heft - y.heft) < digit;
+                    return x.heft - y.heft < digit && y.heft - x.heft < digit;
             }
         }
 
@@ -1210,11 +1185,9 @@ public final class NutsUp {
         int[] nexts = new int[0];
         int boxNumber;
 
-        void renew(Box box, Law law, int hard) {
-            boxNumber = box.number;
-            rule.learn(box, law, hard, NONE);
-            nexts = wideEnough(nexts, box.lies);
-            Arrays.fill(nexts, 0, box.lies, 0);
+        void forget(int lies) {
+            nexts = wideEnough(nexts, lies);
+            Arrays.fill(nexts, 0, lies, 0);
         }
 
         int after(Box box, int lie) {

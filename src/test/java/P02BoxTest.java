@@ -154,5 +154,31 @@ final class P02BoxTest {
         Check.box(x, "g11;g22;g33;g44");
         Check.due("next(23, 1) of 4 again", x.next(23, 1), 13);
         Check.due("of(23, 0)", x.of(23, 0), 3);
+        allRows(x);
+        Check.box(x, "g33;g11;g22");
+        allRows(x);
+        Check.due("next(0, 1) of 3", x.next(0, 1), 3);
+        Check.box(x, "g11;g22;g33");
+        Check.due("next(0, 1) of 3 others", x.next(0, 1), 0);
+        Check.box(x, "g11;g22;g33;g44;g55");
+        allRows(x);
+        Check.box(x, "g11;g22");
+        allRows(x);
+    }
+
+    /** LIES are in the order of rows; each GRAIN is in each row once. */
+    private static void allRows(NutsUp x) {
+        int before = -1;
+        for (int lie = 0; lie < x.many(1); lie++) {
+            int row = 0;
+            int set = 0;
+            for (int p = 0; p < x.many(0); p++) {
+                row = 10 * row + x.of(lie, p);
+                set |= 1 << x.of(lie, p);
+            }
+            Check.due("LIE " + lie + " has all", set, (1 << x.many(0)) - 1);
+            Check.due("LIE " + lie + " is behind the one ahead", row > before ? 1 : 0, 1);
+            before = row;
+        }
     }
 }

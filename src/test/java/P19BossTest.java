@@ -5,6 +5,7 @@ final class P19BossTest {
         severalAreNeeded();
         oneHinders();
         theOneThatMattersMost();
+        laterOrSooner();
         refusals();
         Check.end();
     }
@@ -22,7 +23,7 @@ final class P19BossTest {
 
     /** 0 rises past 1 by its HEFT, past 2 by its BULK; without either it never is on top. */
     private static void severalAreNeeded() {
-        NutsUp x = Check.nuts("g31;g29;g11", "h81;f21", "f21;h81", "a11;f21;h81");
+        NutsUp x = Check.nuts("g31;g29;g11", "h81;f21", "f21;h81");
         for (int l = 0; l < 2; l++) {
             x.use(l);
             Check.due("soon(0, 0, 1)", x.soon(0, 0, 1), 1);
@@ -38,7 +39,6 @@ final class P19BossTest {
         Check.due("boss(0, 0, 1)", x.boss(0, 0, 1), -9);
     }
 
-    /** From 2, 1, 0 grain 2 needs f (a SHAKE); h holds nothing; t makes it later for a while. */
     private static void theOneThatMattersMost() {
         NutsUp x = Check.nuts("g11l;g29;g31", "t91;f11");
         // 2, 0, 1: f: 0, 2, 1 -> 0, 1, 2; without f it never rises.
@@ -47,6 +47,21 @@ final class P19BossTest {
         // 0, 1, 2: t: 1, 0, 2 -> 1, 2, 0: 0 is on top only by t.
         Check.due("soon(0, 0, 1)", x.soon(0, 0, 1), 1);
         Check.due("boss(0, 0, 1)", x.boss(0, 0, 1), 0);
+    }
+
+    private static void laterOrSooner() {
+        // 1, 2, 0 is held back by t, lifted by f: SOON is 2, without t 1, without f NONE.
+        NutsUp x = Check.nuts("g12;g21l;g33", "t11;f11");
+        Check.due("soon(2, 3, 1)", x.soon(2, 3, 1), 2);
+        Check.due("boss(2, 3, 1), NONE by the last", x.boss(2, 3, 1), 1);
+        // 2, 1, 0: SOON is 2, without f 1, else as it is.
+        NutsUp y = Check.nuts("g12;g21l;g33", "t21;h11;f21");
+        Check.due("soon(1, 5, 1)", y.soon(1, 5, 1), 2);
+        Check.due("boss(1, 5, 1), by one SHAKE", y.boss(1, 5, 1), 2);
+        // 2, 0, 1: SOON is NONE, without r 1, without a 2, without h NONE: NONE is more than any.
+        NutsUp z = Check.nuts("g22;g34lo;g43", "r11;a21;h11");
+        Check.due("soon(0, 4, 1)", z.soon(0, 4, 1), -9);
+        Check.due("boss(0, 4, 1), from NONE", z.boss(0, 4, 1), 0);
     }
 
     private static void refusals() {

@@ -1,0 +1,54 @@
+import java.nio.charset.StandardCharsets;
+import java.nio.file.Files;
+import java.nio.file.Path;
+import java.util.regex.Matcher;
+import java.util.regex.Pattern;
+
+/** The rules of ../shared/LANGUAGE.md that can be seen in the words of the class. */
+final class LanguageTest {
+    private static final String[] NOT_IN_IT = {
+        "\\bthrow\\b", "\\bthrows\\b", "\\btry\\b", "\\bcatch\\b", "\\bsynchronized\\b", "\\bassert\\b", "\\bpackage\\b",
+        "->", "::", "@\\w+", "\\bprotected\\b", "\\bSystem\\.(?!arraycopy)", "\\bThread\\b", "\\bObject\\b", "Exact\\(",
+        "\\bstatic\\s*\\{", "\\bvolatile\\b", "\\btransient\\b", "\\bnative\\b", "^import (?!java\\.util\\.Arrays;)",
+        "\\bequals\\(", "\\bhashCode\\(", "\\btoString\\(", "\\bMath\\.(?!abs|max|min)", "\\bArrays\\.(?!fill)",
+        "[^\\x00-\\x7f]", "\\bwhile \\(true\\)", "for \\(;;\\)",
+        "^ {4}(?!private |public |@|\\}| |/|\\*|$)",
+        "^ {4}private static (?!final |class |interface |[\\w\\[\\]]+ \\w+\\()",
+    };
+
+    public static void main(String[] args) throws Exception {
+        String source = Files.readString(Path.of("src/main/java/NutsUp.java"), StandardCharsets.UTF_8);
+        String code = source.replaceAll("(?s)/\\*.*?\\*/", "").replaceAll("//[^\n]*", "");
+        int wrong = 0;
+        for (String not : NOT_IN_IT) {
+            Matcher found = Pattern.compile(not, Pattern.MULTILINE).matcher(code);
+            if (found.find()) {
+                System.out.println("found \"" + found.group() + "\", which LANGUAGE.md leaves out");
+                wrong++;
+            }
+        }
+        wrong += privateMethodsWithPublicNames(code);
+        if (wrong > 0) {
+            System.exit(1);
+        }
+    }
+
+    private static int privateMethodsWithPublicNames(String code) {
+        int wrong = 0;
+        Matcher publics = Pattern.compile("public (?:int|long) (\\w+)\\(").matcher(code);
+        int methods = 0;
+        while (publics.find()) {
+            methods++;
+            String name = publics.group(1);
+            if (Pattern.compile("(?<!public )\\b(?:int|long|boolean|void|int\\[\\]) " + name + "\\(").matcher(code).find()) {
+                System.out.println("another method bears the name " + name);
+                wrong++;
+            }
+        }
+        if (methods != 40) {
+            System.out.println(methods + " public methods, due are 40");
+            wrong++;
+        }
+        return wrong;
+    }
+}
