@@ -4,6 +4,7 @@ final class P02BoxTest {
         texts();
         longest();
         cellsFromWithin();
+        endsAheadOfMore();
         codesOfInts();
         makesAllAnew();
         changesNothingIfNotTaken();
@@ -70,6 +71,16 @@ final class P02BoxTest {
         Check.due("box(1, 1, 1, 8)", x.box(1, 1, 1, 8), -100);
         Check.due("box(1, 1, 11, 0)", x.box(1, 1, 11, 0), -100);
         Check.due("box(1, 1, 6, 3)", x.box(1, 1, 6, 3), -103);
+    }
+
+    /** What is behind the n cells is no part of the TEXT. */
+    private static void endsAheadOfMore() {
+        NutsUp x = new NutsUp();
+        Check.row(x, 0, 0, Check.codes("g11;g22lo"));
+        for (int kind = 0; kind < 3; kind++) {
+            Check.due("box(0, 0, 0, " + (7 + kind) + ")", x.box(0, 0, 0, 7 + kind), 2);
+            Check.due("ofGrain(1, 0)", x.ofGrain(1, 0), kind);
+        }
     }
 
     private static void codesOfInts() {

@@ -9,6 +9,7 @@ final class P25OddsTest {
             share(x, g, 99, 3, g == 2 ? 1 : 0, 1);
         }
         partly();
+        counted();
         seven();
         refusals(x);
         Check.end();
@@ -29,6 +30,24 @@ final class P25OddsTest {
         share(x, 0, 50, 1, 1, 6);
         share(x, 1, 50, 1, 1, 3);
         share(x, 2, 50, 1, 1, 2);
+    }
+
+    /** Shares that are counted LIE by LIE, among them some that are neither whole nor one part. */
+    private static void counted() {
+        NutsUp x = Check.nuts("g11;g22;g33;g44", "f21");
+        int[] onTop = new int[4];
+        for (int lie = 0; lie < 24; lie++) {
+            onTop[x.of(x.next(lie, 1), 3)]++;
+        }
+        // Only the pair on top counts: 2 rises past 0, 3 past 0 and 1, each in 2 LIES.
+        int[] due = {2, 4, 8, 10};
+        for (int g = 0; g < 4; g++) {
+            Check.due("how often " + g + " is on top", onTop[g], due[g]);
+        }
+        share(x, 0, 1, 1, 1, 12);
+        share(x, 1, 1, 1, 1, 6);
+        share(x, 2, 1, 1, 1, 3);
+        share(x, 3, 1, 1, 5, 12);
     }
 
     private static void seven() {
