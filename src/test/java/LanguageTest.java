@@ -28,9 +28,42 @@ final class LanguageTest {
             }
         }
         wrong += privateMethodsWithPublicNames(code);
+        wrong += tooLong(code);
+        wrong += tooMany(code);
         if (wrong > 0) {
             System.exit(1);
         }
+    }
+
+    /** Rule 11: methods of some sixty lines at most, of seven parameters at most. */
+    private static int tooLong(String code) {
+        int wrong = 0;
+        String[] lines = code.split("\n");
+        for (int l = 0; l < lines.length; l++) {
+            Matcher method = Pattern.compile("^( +)(?:[\\w\\[\\]]+ )*\\w+\\(([^)]*)\\) \\{$").matcher(lines[l]);
+            if (method.find() && !lines[l].trim().matches("(if|for|while|switch) .*")) {
+                int end = l;
+                while (!lines[end].equals(method.group(1) + "}")) {
+                    end++;
+                }
+                if (end - l > 60 || method.group(2).split(",").length > 7) {
+                    System.out.println("too long: " + lines[l]);
+                    wrong++;
+                }
+            }
+        }
+        return wrong;
+    }
+
+    /** Rule 11: some twelve classes, each with some twenty fields beside its constants. */
+    private static int tooMany(String code) {
+        int classes = (int) Pattern.compile("\\bclass \\w+").matcher(code).results().count();
+        Pattern field = Pattern.compile("^ {4}private (?!static)[^(]*(;| = .*;)$", Pattern.MULTILINE);
+        int fields = (int) field.matcher(code).results().count();
+        if (classes > 12 || fields > 20) {
+            System.out.println(classes + " classes, " + fields + " fields of NutsUp");
+        }
+        return classes > 12 || fields > 20 ? 1 : 0;
     }
 
     private static int privateMethodsWithPublicNames(String code) {

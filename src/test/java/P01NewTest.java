@@ -17,6 +17,7 @@ final class P01NewTest {
         Check.due("trace()", x.trace(), 0);
         Check.due("fault()", x.fault(), 0);
         Check.due("back(0)", x.back(0), 0);
+        nothingIsThere();
         newOnesAreApart();
         Check.due("UNKNOWN", NutsUp.UNKNOWN, -1);
         Check.due("OUTSIDE", NutsUp.OUTSIDE, -2);
@@ -25,6 +26,44 @@ final class P01NewTest {
         Check.due("NONE", NutsUp.NONE, -9);
         Check.due("LOST", NutsUp.LOST, Long.MIN_VALUE);
         Check.end();
+    }
+
+    /** Each call that needs a BOX, a LAW, a READING, a row: on an object of which nothing has been told. */
+    private static void nothingIsThere() {
+        NutsUp x = new NutsUp();
+        Check.due("lay(0)", x.lay(0), -1);
+        Check.due("of(0, 0)", x.of(0, 0), -1);
+        Check.due("cause(0, 1, 0, 1)", x.cause(0, 1, 0, 1), -1);
+        Check.due("shake(1, 0)", x.shake(1, 0), -3);
+        Check.due("turn()", x.turn(), -3);
+        Check.due("spoon()", x.spoon(), -3);
+        Check.due("next(0, 1)", x.next(0, 1), -1);
+        Check.due("still(0, 1, 0)", x.still(0, 1, 0), -1);
+        Check.due("soon(0, 0, 1)", x.soon(0, 0, 1), -1);
+        Check.due("boss(0, 0, 1)", x.boss(0, 0, 1), -1);
+        Check.due("mix(0, 0)", x.mix(0, 0), -1);
+        Check.due("plan(0, 0, -1)", x.plan(0, 0, -1), -3);
+        Check.due("way(0, 0, -1)", x.way(0, 0, -1), -1);
+        Check.due("come(0, 0, 1)", x.come(0, 0, 1), -1);
+        Check.due("bare(1)", x.bare(1), -3);
+        Check.due("odds(0, 0, 1, 0)", x.odds(0, 0, 1, 0), Check.LOST);
+        Check.due("reading(0, 0)", x.reading(0, 0), -1);
+        Check.due("fits(0, 1)", x.fits(0, 1), -1);
+        Check.due("bears(1, 0)", x.bears(1, 0), -3);
+        Check.due("tell(0)", x.tell(0), -1);
+        Check.due("sift(0)", x.sift(0), -1);
+        Check.dueFault(x, "as(0, 0)", x.as(0, 0), -1, 0);
+        for (int k = 0; k < 4; k++) {
+            for (int sort = 0; sort < 3; sort++) {
+                Check.dueFault(x, "box of nothing", x.box(k, sort, 0, 0), -11, 1);
+                Check.dueFault(x, "law of nothing", x.law(k, sort, 0, 0), -11, 1);
+                Check.dueFault(x, "doing of nothing", x.doing(k, sort, 0, 0), -11, 1);
+                Check.dueFault(x, "cell of nothing", x.cell(k, 0, sort), Check.LOST, 1);
+            }
+            Check.dueFault(x, "put to nothing", x.put(k, 0, 0), -11, 1);
+            Check.dueFault(x, "copy of nothing", x.copy(k, 0, 3 - k, 0, 0), -11, 1);
+            Check.dueFault(x, "which, no LIES", x.which(0, 0, k, 0, 0, 0), -1, 0);
+        }
     }
 
     private static void newOnesAreApart() {

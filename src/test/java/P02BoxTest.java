@@ -3,6 +3,9 @@ final class P02BoxTest {
     public static void main(String[] args) {
         texts();
         longest();
+        allBeginnings();
+        allCodes();
+        codesThatOnlyLookAlike();
         cellsFromWithin();
         endsAheadOfMore();
         codesOfInts();
@@ -61,6 +64,73 @@ final class P02BoxTest {
         text(seven, 7);
         text(seven + ";", -141);
         text(seven + "l", -141);
+    }
+
+    /** What a TEXT begins with ends too soon, but where it is a TEXT of two GRAINS or more itself. */
+    private static void allBeginnings() {
+        String[] wholes = {"g11;g22;g33;g44;g55;g66;g77", "g11lo;g22l;g33;g44lo;g55lo;g66l;g77lo"};
+        for (String whole : wholes) {
+            for (int n = 0; n <= whole.length(); n++) {
+                String beginning = whole.substring(0, n);
+                String[] grains = beginning.split(";", -1);
+                boolean isText = grains.length > 1 && grains[grains.length - 1].matches("g[1-9][1-9](l|lo)?");
+                text(beginning, isText ? grains.length : -100 - n);
+            }
+        }
+    }
+
+    /** Behind each beginning all codes that a byte can be: some go on, with all others it is the place of the fault. */
+    private static void allCodes() {
+        String six = Check.repeated("g91lo", 6, ";") + ";";
+        behind("", "g");
+        behind("g", "123456789");
+        behind("g5", "123456789");
+        behind("g55", "l;");
+        behind("g55l", "o;");
+        behind("g55lo", ";");
+        behind("g55;", "g");
+        behind("g55l;", "g");
+        behind("g55lo;g", "123456789");
+        behind(six, "g");
+        behind(six + "g", "123456789");
+        behind(six + "g1", "123456789");
+        // Here the seventh GRAIN is whole, the ; ahead of an eighth one goes on with no TEXT.
+        behind(six + "g11", "l");
+        behind(six + "g11l", "o");
+        behind(six + "g11lo", "");
+    }
+
+    private static void behind(String beginning, String goOn) {
+        for (int code = Byte.MIN_VALUE; code <= Byte.MAX_VALUE; code++) {
+            NutsUp x = new NutsUp();
+            boolean goesOn = goOn.indexOf((char) code) >= 0;
+            String told = "box \"" + beginning + "\" and " + code + ", then !";
+            // ! is no code of any TEXT: where the code goes on, the fault is at the !.
+            int[] codes = Check.codes(beginning + ".!");
+            codes[beginning.length()] = code;
+            Check.row(x, 0, 0, codes);
+            int place = beginning.length() + (goesOn ? 1 : 0);
+            Check.due(told, x.box(0, 0, 0, codes.length), -100 - place);
+            Check.due("many(0)", x.many(0), 0);
+        }
+    }
+
+    /** Numbers of shorts and ints whose lowest bits are a code's, and those that are one below 0. */
+    private static void codesThatOnlyLookAlike() {
+        String text = "g12lo;g34";
+        for (int sort = 1; sort < 3; sort++) {
+            for (int place = 0; place < text.length(); place++) {
+                NutsUp x = new NutsUp();
+                Check.row(x, 1, sort, Check.codes(text));
+                int code = text.charAt(place);
+                for (int other : new int[] {code + 256, code - 256, code + 128, -code, code + 65536, code - 65536}) {
+                    x.put(1, place, other);
+                    boolean cut = sort == 1 && (other == code + 65536 || other == code - 65536);
+                    int due = cut ? 2 : -100 - place;
+                    Check.due("box with " + other + " at " + place, x.box(1, sort, 0, text.length()), due);
+                }
+            }
+        }
     }
 
     private static void cellsFromWithin() {
@@ -165,29 +235,36 @@ final class P02BoxTest {
         Check.box(x, "g11;g22;g33;g44");
         Check.due("next(23, 1) of 4 again", x.next(23, 1), 13);
         Check.due("of(23, 0)", x.of(23, 0), 3);
-        allRows(x);
         Check.box(x, "g33;g11;g22");
-        allRows(x);
         Check.due("next(0, 1) of 3", x.next(0, 1), 3);
         Check.box(x, "g11;g22;g33");
         Check.due("next(0, 1) of 3 others", x.next(0, 1), 0);
-        Check.box(x, "g11;g22;g33;g44;g55");
-        allRows(x);
-        Check.box(x, "g11;g22");
-        allRows(x);
+        String[] texts = {"g11;g22", "g11;g22;g33", "g11;g22;g33;g44", "g11;g22;g33;g44;g55"};
+        for (String before : texts) {
+            for (String text : texts) {
+                NutsUp y = Check.nuts(before, "f11");
+                y.bare(1);
+                Check.box(y, text);
+                rows(y);
+            }
+        }
     }
 
     /** LIES are in the order of rows; each GRAIN is in each row once. */
-    private static void allRows(NutsUp x) {
+    private static void rows(NutsUp x) {
         int before = -1;
-        for (int lie = 0; lie < x.many(1); lie++) {
+        int grains = x.many(0);
+        int lies = x.many(1);
+        // Of the 120 LIES of five GRAINS every second, for all would be too many calls.
+        for (int lie = 0; lie < lies; lie += lies > 60 ? 2 : 1) {
             int row = 0;
             int set = 0;
-            for (int p = 0; p < x.many(0); p++) {
-                row = 10 * row + x.of(lie, p);
-                set |= 1 << x.of(lie, p);
+            for (int p = 0; p < grains; p++) {
+                int g = x.of(lie, p);
+                row = 10 * row + g;
+                set |= 1 << g;
             }
-            Check.due("LIE " + lie + " has all", set, (1 << x.many(0)) - 1);
+            Check.due("LIE " + lie + " has all", set, (1 << grains) - 1);
             Check.due("LIE " + lie + " is behind the one ahead", row > before ? 1 : 0, 1);
             before = row;
         }

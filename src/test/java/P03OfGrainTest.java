@@ -23,11 +23,23 @@ final class P03OfGrainTest {
         for (int g = 0; g < 4; g++) {
             Check.due("ofGrain(" + g + ", 5) in LIE 3", x.ofGrain(g, 5), places[g]);
         }
+        edgesOfBulkAndHeft();
         Check.due("ofGrain(0, -1)", x.ofGrain(0, -1), -2);
         Check.due("ofGrain(3, 6)", x.ofGrain(3, 6), -2);
         Check.due("ofGrain(-1, 6)", x.ofGrain(-1, 6), -1);
         Check.due("ofGrain(4, 0)", x.ofGrain(4, 0), -1);
         Check.due("ofGrain(MAX, 0)", x.ofGrain(Integer.MAX_VALUE, 0), -1);
         Check.end();
+    }
+
+    /** BULK 0 is the least, HEFT 11 the greatest. */
+    private static void edgesOfBulkAndHeft() {
+        NutsUp x = Check.nuts("g11;g99;g11l;g99l;g11lo;g99lo");
+        int[] bulks = {1, 9, 0, 8, 0, 8};
+        int[] hefts = {1, 9, 1, 9, 3, 11};
+        for (int g = 0; g < 6; g++) {
+            Check.due("BULK of " + g, x.ofGrain(g, 3), bulks[g]);
+            Check.due("HEFT of " + g, x.ofGrain(g, 4), hefts[g]);
+        }
     }
 }

@@ -10,6 +10,9 @@ final class P05LieTest {
         Check.due("lie() behind a SHAKE", x.lie(), 1);
         Check.box(x, "g22;g11");
         Check.due("lie() of a new BOX", x.lie(), 0);
+        NutsUp seven = Check.nuts("g11;g22;g33;g44;g55;g66;g77");
+        seven.turn();
+        Check.due("lie(), the greatest", seven.lie(), 5039);
         Check.end();
     }
 }

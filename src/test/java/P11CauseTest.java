@@ -7,6 +7,8 @@ final class P11CauseTest {
         tilts();
         staysByPlace();
         staysByHeft();
+        placesOfSeven();
+        byHard();
         firstThatIsSo();
         refusals();
         Check.end();
@@ -87,6 +89,36 @@ final class P11CauseTest {
         byDigit("g14;g14", 'a', 0, 1, "123456789");
         byDigit("g14lo;g16", 'a', 0, 1, "123456789");
         byDigit("g11;g18lo", 'a', 0, 1, "");
+    }
+
+    /** t and n by each d, at each PLACE that is not the top: 0 is the least, 5 the greatest. */
+    private static void placesOfSeven() {
+        for (int d = 0; d <= 9; d++) {
+            NutsUp x = Check.nuts("g11l;g22;g33;g44;g55;g66;g77", "t" + d + "1", "n" + d + "1");
+            for (int place = 0; place <= 5; place++) {
+                x.use(0);
+                rules(x, 0, 1, place, 1, place < d ? 0 : -9);
+                x.use(1);
+                rules(x, 0, 1, place, 1, place >= d ? 0 : -9);
+            }
+            rules(x, 0, 1, 6, 1, -2);
+        }
+    }
+
+    /** A CAUSE rules from its own HARD on. */
+    private static void byHard() {
+        for (char letter : "fhrtna".toCharArray()) {
+            for (int least = 1; least <= 3; least++) {
+                // By f, r, t the greater and LONG one below rules; by h the heavier one above.
+                String law = letter + (letter == 't' ? "9" : "0") + least;
+                NutsUp x = Check.nuts(letter == 'h' ? "g91l;g29" : "g92l;g12", law);
+                NutsUp y = Check.nuts("g12;g12", "a1" + least);
+                for (int hard = 1; hard <= 3; hard++) {
+                    rules(x, 0, 1, 0, hard, letter != 'a' && hard >= least ? 0 : -9);
+                    rules(y, 0, 1, 0, hard, hard >= least ? 0 : -9);
+                }
+            }
+        }
     }
 
     private static void firstThatIsSo() {

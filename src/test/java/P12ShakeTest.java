@@ -29,6 +29,11 @@ final class P12ShakeTest {
         NutsUp y = Check.nuts("g11;g11", "f01");
         Check.due("shake(3, 99) where it never rests", y.shake(3, 99), 99);
         Check.due("lie()", y.lie(), 1);
+        Check.due("shake(3, 98)", y.shake(3, 98), 98);
+        Check.due("lie()", y.lie(), 1);
+        Check.due("shake(3, 0)", y.shake(3, 0), 0);
+        Check.due("lie()", y.lie(), 1);
+        Check.due("many(4)", y.many(4), 197);
     }
 
     /** All GRAINS alike: by f01 all pairs change, first from 0, 2, 4, then from 1, 3, 5. */

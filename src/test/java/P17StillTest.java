@@ -15,6 +15,7 @@ final class P17StillTest {
             Check.due("still(last, 1, 1)", alike.still(alike.many(1) - 1, 1, 1), n);
         }
         aWayAndARound();
+        longWays();
         refusals(x);
         Check.end();
     }
@@ -29,6 +30,29 @@ final class P17StillTest {
         Check.due("still(0, 1, 1)", x.still(0, 1, 1), 2);
         Check.due("still(3, 1, 0)", x.still(3, 1, 0), 0);
         Check.due("still(5, 1, 1)", x.still(5, 1, 1), 2);
+    }
+
+    /** Ways and rounds that are much longer than there are GRAINS, beside the same way gone step by step. */
+    private static void longWays() {
+        longWay("g11;g34lo;g17;g44;g47l;g39lo;g56lo", "h03;t43;f13;a01;r01;f02", 358, 3, 42, 42);
+        longWay("g13lo;g21;g32l;g13;g32lo;g12;g23", "r02;f03;f02;h01;t41", 1822, 2, 4, 174);
+        longWay("g65l;g66;g47lo;g68;g32;g62;g65", "h31;t33;f01;f02;f22;a02", 1870, 3, 20, 28);
+    }
+
+    private static void longWay(String box, String law, int lie, int hard, int still, int round) {
+        NutsUp x = Check.nuts(box, law);
+        java.util.List<Integer> been = new java.util.ArrayList<>();
+        int now = lie;
+        while (!been.contains(now)) {
+            been.add(now);
+            now = x.next(now, hard);
+        }
+        int first = been.indexOf(now);
+        Check.due("still(" + lie + ", " + hard + ", 0) of " + box, x.still(lie, hard, 0), first);
+        Check.due("still(" + lie + ", " + hard + ", 1) of " + box, x.still(lie, hard, 1), been.size() - first);
+        Check.due("STILL as it is known to be", first, still);
+        Check.due("ROUND as it is known to be", been.size() - first, round);
+        Check.due("it comes again, so it is STILL now", x.still(now, hard, 0), 0);
     }
 
     private static void refusals(NutsUp x) {

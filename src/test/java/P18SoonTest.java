@@ -14,6 +14,8 @@ final class P18SoonTest {
         Check.due("soon(0, 0, 1) by LAW 1", x.soon(0, 0, 1), 1);
         Check.due("soon(1, 0, 1) by LAW 1", x.soon(1, 0, 1), -9);
         alike();
+        late();
+        atOnce();
         refusals(x);
         Check.end();
     }
@@ -24,6 +26,38 @@ final class P18SoonTest {
         int[] due = {3, 4, 2, 5, 1, 6, 0};
         for (int g = 0; g < 7; g++) {
             Check.due("soon(" + g + ", 0, 1) of alike", x.soon(g, 0, 1), due[g]);
+        }
+    }
+
+    /** One that is on top only behind 21 SHAKES, of seven GRAINS. */
+    private static void late() {
+        int lie = 358;
+        for (int g = 0; g < 7; g++) {
+            NutsUp x = Check.nuts("g11;g34lo;g17;g44;g47l;g39lo;g56lo", "h03;t43;f13;a01;r01;f02");
+            x.lay(lie);
+            int due = -9;
+            // Way and round are much shorter than 200 SHAKES.
+            for (int s = 0; s < 200 && due < 0; s++) {
+                due = x.at(6) == g ? s : -9;
+                x.shake(3, 1);
+            }
+            Check.due("soon(" + g + ", 358, 3)", x.soon(g, lie, 3), due);
+        }
+        NutsUp x = Check.nuts("g11;g34lo;g17;g44;g47l;g39lo;g56lo", "h03;t43;f13;a01;r01;f02");
+        int latest = -9;
+        for (int g = 0; g < 7; g++) {
+            latest = Math.max(latest, x.soon(g, lie, 3));
+        }
+        Check.due("the latest one", latest, 21);
+    }
+
+    /** 0 is the least: it is on top already, by whatever HARD. */
+    private static void atOnce() {
+        NutsUp x = Check.nuts("g11;g11;g11;g11", "f01");
+        for (int lie = 0; lie < 24; lie++) {
+            for (int hard = 1; hard <= 3; hard++) {
+                Check.due("soon of the one on top", x.soon(x.of(lie, 3), lie, hard), 0);
+            }
         }
     }
 

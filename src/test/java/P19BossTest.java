@@ -6,6 +6,14 @@ final class P19BossTest {
         oneHinders();
         theOneThatMattersMost();
         laterOrSooner();
+        theLastOfSix();
+        ofSeveralTheFirst();
+        leftOutOneByOne("g79l;g28;g11lo;g78;g46;g54lo;g29", "r21;a01;h13;t33;a12", 0, 2691, 3);
+        leftOutOneByOne("g33l;g44;g21;g34;g24;g21l;g21lo", "h11;f12;a01;h23;t43", 5, 879, 3);
+        for (int g = 0; g < 7; g++) {
+            leftOutOneByOne("g11;g34lo;g17;g44;g47l;g39lo;g56lo", "h03;t43;f13;a01;r01;f02", g, 358, 3);
+            leftOutOneByOne("g65l;g66;g47lo;g68;g32;g62;g65", "h31;t33;f01;f02;f22;a02", g, 1870, 3);
+        }
         refusals();
         Check.end();
     }
@@ -62,6 +70,44 @@ final class P19BossTest {
         NutsUp z = Check.nuts("g22;g34lo;g43", "r11;a21;h11");
         Check.due("soon(0, 4, 1)", z.soon(0, 4, 1), -9);
         Check.due("boss(0, 4, 1), from NONE", z.boss(0, 4, 1), 0);
+    }
+
+    /** The sixth CAUSE is the only one that does it; the five ahead are not so, or too HARD. */
+    private static void theLastOfSix() {
+        NutsUp x = Check.nuts("g11;g22", "h91;t91;n91;a01;f13;f11");
+        Check.due("soon(1, 1, 1)", x.soon(1, 1, 1), 1);
+        Check.due("boss(1, 1, 1)", x.boss(1, 1, 1), 5);
+        // At HARD 3 the fifth does what the sixth does: without either it is the same.
+        Check.due("boss(1, 1, 3)", x.boss(1, 1, 3), -9);
+    }
+
+    /** Two that each hold it alone would be as much; one ahead of the other in the row. */
+    private static void ofSeveralTheFirst() {
+        // 2, 1, 0: 0 rises past 1 only by the HEFT, past 2 only by the BULK; whichever is first is told.
+        NutsUp x = Check.nuts("g31;g29;g11", "a01;n91;h81;f21", "a01;n91;f21;h81");
+        for (int l = 0; l < 2; l++) {
+            x.use(l);
+            Check.due("soon(0, 0, 1)", x.soon(0, 0, 1), 1);
+            Check.due("boss(0, 0, 1), the third", x.boss(0, 0, 1), 2);
+        }
+    }
+
+    /** Beside a LAW of its own for each CAUSE that is left out; SOON is up to 174 there, NONE still counts as more. */
+    private static void leftOutOneByOne(String box, String law, int g, int lie, int hard) {
+        int soon = Check.nuts(box, law).soon(g, lie, hard);
+        String[] causes = law.split(";");
+        int boss = -9;
+        int most = 0;
+        for (int c = 0; c < causes.length; c++) {
+            java.util.List<String> others = new java.util.ArrayList<>(java.util.List.of(causes));
+            others.remove(c);
+            int without = Check.nuts(box, String.join(";", others)).soon(g, lie, hard);
+            int by = Math.abs((without == -9 ? 9999 : without) - (soon == -9 ? 9999 : soon));
+            boss = by > most ? c : boss;
+            most = Math.max(most, by);
+        }
+        String told = "boss(" + g + ", " + lie + ", " + hard + ") of " + box;
+        Check.due(told, Check.nuts(box, law).boss(g, lie, hard), boss);
     }
 
     private static void refusals() {

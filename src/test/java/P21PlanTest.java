@@ -4,6 +4,9 @@ final class P21PlanTest {
         mixing();
         parting();
         firstAsARow();
+        tried("g13l;g32l;g11;g23;g12", "t43;t21;t02;h01;f01", 17, 1);
+        tried("g25l;g25lo;g96l;g72;g16", "f02;h02;f03;t03", 3, 0);
+        nineAreNeeded();
         refusals();
         Check.end();
     }
@@ -54,6 +57,54 @@ final class P21PlanTest {
         NutsUp z = Check.nuts("g12;g21;g33", "f13;f12");
         z.lay(5);
         plan(z, 1, 3, 3, 2, 2);
+    }
+
+    /** All doings one by one, the shorter ones and those that are first as a row ahead, at each k from 0 to 9. */
+    private static void tried(String box, String law, int from, int aim) {
+        int[][] nexts = {Tables.nexts(box, law, 1), Tables.nexts(box, law, 2), Tables.nexts(box, law, 3)};
+        int[] values = Tables.measures(box, aim);
+        NutsUp x = Check.nuts(box, law);
+        x.lay(from);
+        int most = values[from];
+        int[] best = {};
+        int doings = 1;
+        for (int k = 0; k <= 9; k++) {
+            for (int d = 0; d < doings; d++) {
+                int[] hards = new int[k];
+                int rest = d;
+                for (int q = k - 1; q >= 0; q--) {
+                    hards[q] = rest % 3 + 1;
+                    rest /= 3;
+                }
+                int lie = from;
+                for (int hard : hards) {
+                    lie = nexts[hard - 1][lie];
+                }
+                if (values[lie] > most) {
+                    most = values[lie];
+                    best = hards;
+                }
+            }
+            doings *= 3;
+            plan(x, aim, k, most, best);
+        }
+    }
+
+    /** With k 8 it is less: the ninth SHAKE (q 8) is taken, too. */
+    private static void nineAreNeeded() {
+        NutsUp x = Check.nuts("g13l;g32l;g11;g23;g12", "t43;t21;t02;h01;f01");
+        x.lay(17);
+        Check.due("plan(1, 8, -1)", x.plan(1, 8, -1), 6);
+        Check.due("plan(1, 9, -1)", x.plan(1, 9, -1), 7);
+        Check.due("plan(1, 9, -2)", x.plan(1, 9, -2), 9);
+        int last = x.plan(1, 9, 8);
+        Check.due("plan(1, 9, 8)", last >= 1 && last <= 3 ? 1 : 0, 1);
+        Check.row(x, 0, 0, 0, 0, 0, 0, 0, 0, 0, 0, 0);
+        for (int q = 0; q < 9; q++) {
+            x.put(0, q, x.plan(1, 9, q));
+        }
+        x.doing(0, 0, 0, 9);
+        Check.due("PARTS behind that doing", x.mix(x.lie(), 1), 7);
     }
 
     private static void refusals() {

@@ -24,6 +24,8 @@ final class P23ComeTest {
         Check.due("come(2, 0, 1) without a LAW", y.come(2, 0, 1), -1);
         intoARound();
         seven();
+        counted("g31;g12;g21lo;g22l;g32", "h02;n31;f01;n41", 87, 3);
+        counted("g95l;g41;g24l;g32l;g98lo", "h32;f13;f43;f52;n13", 70, 2);
         Check.end();
     }
 
@@ -34,6 +36,18 @@ final class P23ComeTest {
             Check.due("come together", x.come(3, k, 1) + x.come(5, k, 1), 6);
             Check.due("come turn about", x.come(3, k, 1), x.come(5, k + 1, 1));
         }
+    }
+
+    /** Rounds in which it matters whether there are 97, 98 or 99 SHAKES. */
+    private static void counted(String box, String law, int lie, int hard) {
+        int[] nexts = Tables.nexts(box, law, hard);
+        NutsUp x = Check.nuts(box, law);
+        for (int k : new int[] {0, 1, 2, 3, 63, 64, 65, 97, 98, 99}) {
+            int due = Tables.howMany(Tables.behind(nexts, k), to -> to == lie ? 1 : 0);
+            Check.due("come(" + lie + ", " + k + ", " + hard + ") of " + box, x.come(lie, k, hard), due);
+        }
+        Check.due("98 is not 97", x.come(lie, 98, hard) == x.come(lie, 97, hard) ? 1 : 0, 0);
+        Check.due("99 is not 98", x.come(lie, 99, hard) == x.come(lie, 98, hard) ? 1 : 0, 0);
     }
 
     private static void seven() {

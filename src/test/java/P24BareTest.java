@@ -11,6 +11,15 @@ final class P24BareTest {
         Check.due("bare(4)", x.bare(4), -2);
         NutsUp round = Check.nuts(Check.repeated("g11", 7, ";"), "f01");
         Check.due("bare(1) of alike", round.bare(1), 0);
+        String box = "g31;g12;g21lo;g22l;g32";
+        for (int hard = 1; hard <= 3; hard++) {
+            int[] come = new int[120];
+            for (int to : Tables.nexts(box, "h02;n31;f01;n43", hard)) {
+                come[to] = 1;
+            }
+            NutsUp five = Check.nuts(box, "h02;n31;f01;n43");
+            Check.due("bare(" + hard + ") of five", five.bare(hard), Tables.howMany(come, one -> 1 - one));
+        }
         NutsUp two = Check.nuts("g11;g22", "f11");
         Check.due("bare(1) of two", two.bare(1), 1);
         NutsUp y = new NutsUp();

@@ -11,6 +11,8 @@ final class P25OddsTest {
         partly();
         counted();
         seven();
+        countedLong("g58lo;g57;g48l;g41l", "f33;r12;h33;t03", 3, 3);
+        countedLong("g27lo;g42lo;g23;g19;g21lo", "a13;r02;f02;t11;f03;h01", 4, 3);
         refusals(x);
         Check.end();
     }
@@ -50,11 +52,27 @@ final class P25OddsTest {
         share(x, 3, 1, 1, 5, 12);
     }
 
+    /** Rounds in which it matters whether there are 97, 98 or 99 SHAKES; least terms by trying all divisors. */
+    private static void countedLong(String box, String law, int g, int hard) {
+        int[] nexts = Tables.nexts(box, law, hard);
+        int[] tops = Tables.tops(box);
+        NutsUp x = Check.nuts(box, law);
+        for (int k : new int[] {0, 1, 2, 3, 63, 64, 65, 97, 98, 99}) {
+            int onTop = Tables.howMany(Tables.behind(nexts, k), lie -> tops[lie] == g ? 1 : 0);
+            int by = nexts.length;
+            while (onTop % by != 0 || nexts.length % by != 0) {
+                by--;
+            }
+            share(x, g, k, hard, onTop / by, nexts.length / by);
+        }
+    }
+
     private static void seven() {
         NutsUp x = Check.nuts("g11;g21;g31;g41;g51;g61;g71", "f11");
         share(x, 6, 0, 1, 1, 7);
         share(x, 6, 99, 1, 1, 1);
         share(x, 0, 99, 1, 0, 1);
+        share(x, 0, 0, 3, 1, 7);
     }
 
     private static void refusals(NutsUp x) {

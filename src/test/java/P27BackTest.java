@@ -20,6 +20,25 @@ final class P27BackTest {
         Check.due("back(3)", x.back(3), 0);
         Check.due("back(1) of none", x.back(1), -2);
         Check.due("many(3)", x.many(3), 0);
+        Check.due("back(MIN)", x.back(Integer.MIN_VALUE), -2);
+        Check.due("back(MAX)", x.back(Integer.MAX_VALUE), -2);
+        ofAll();
         Check.end();
+    }
+
+    /** Eight there are at most; all of them may go at once. */
+    private static void ofAll() {
+        for (int k = 0; k <= 8; k++) {
+            NutsUp x = Check.nuts("g11;g22", "n01");
+            for (int r = 0; r < 8; r++) {
+                x.reading(1, r < 4 ? 1 : 0);
+            }
+            Check.due("back(9) of eight", x.back(9), -2);
+            Check.due("back(" + k + ") of eight", x.back(k), 8 - k);
+            Check.due("many(3)", x.many(3), 8 - k);
+            // Only without the last four it fits.
+            Check.due("fits(0, 1)", x.fits(0, 1), k < 4 ? 0 : Integer.MAX_VALUE);
+            Check.due("the next one", x.reading(0, 0), k == 0 ? -4 : 8 - k);
+        }
     }
 }

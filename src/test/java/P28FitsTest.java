@@ -24,12 +24,39 @@ final class P28FitsTest {
         Check.due("fits(0, 0)", x.fits(0, 0), -2);
         Check.due("fits(0, 4)", x.fits(0, 4), -2);
         round();
+        eight();
+        atTheLast();
         NutsUp y = Check.nuts("g11;g22");
         Check.due("fits(0, 1) without a LAW", y.fits(0, 1), -3);
         Check.due("fits(0, 4) without a LAW", y.fits(0, 4), -2);
         Check.due("fits(2, 1) without a LAW", y.fits(2, 1), -1);
         Check.due("fits(0, 1) without a BOX", new NutsUp().fits(0, 1), -1);
         Check.end();
+    }
+
+    /** Of eight READINGS each counts, the first and the last, too. */
+    private static void eight() {
+        for (int wrong = -1; wrong < 8; wrong++) {
+            NutsUp x = Check.nuts("g11;g22;g33", "n01");
+            for (int r = 0; r < 8; r++) {
+                x.reading(r % 3, r == wrong ? (r + 1) % 3 : r % 3);
+            }
+            Check.due("fits(0, 1), READING " + wrong + " is not so", x.fits(0, 1), wrong < 0 ? ALL : 0);
+        }
+    }
+
+    /** 31 is no SHAKE of it, 30 is: by seven alike that go round in seven, and by each SHAKE gone one by one. */
+    private static void atTheLast() {
+        for (int place = 0; place < 7; place++) {
+            NutsUp x = Check.nuts("g11;g11;g11;g11;g11;g11;g11", "f01");
+            x.reading(2, place);
+            int due = 0;
+            for (int s = 0; s <= 30; s++) {
+                due |= x.at(place) == 2 ? 1 << s : 0;
+                x.shake(1, 1);
+            }
+            Check.due("fits(0, 1), 2 at PLACE " + place, x.fits(0, 1), due);
+        }
     }
 
     /** Two alike go round in two SHAKES: 0 is below behind 0, 2 .. 30. */

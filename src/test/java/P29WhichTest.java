@@ -2,6 +2,7 @@
 final class P29WhichTest {
     public static void main(String[] args) {
         byLaws();
+        edges();
         refusalsAndFaults();
         Check.end();
     }
@@ -30,6 +31,31 @@ final class P29WhichTest {
         java.util.Arrays.fill(sixty, 2);
         Check.row(x, 2, 2, sixty);
         Check.due("which 5 to 0 by 60", x.which(5, 0, 2, 2, 0, 60), 1);
+    }
+
+    /** None of the cells, one at the end, all 60; a row of none. */
+    private static void edges() {
+        NutsUp x = Check.nuts("g11;g11", "f03", "f01", "n01", "f02");
+        int[] sixty = new int[60];
+        java.util.Arrays.fill(sixty, 1);
+        sixty[0] = 2;
+        sixty[59] = 3;
+        for (int sort = 0; sort < 3; sort++) {
+            Check.row(x, sort, sort, sixty);
+            // LAW 0 changes by the 3, LAW 1 by all, LAW 2 by none, LAW 3 by the 2 and the 3.
+            Check.due("all 60 come back", x.which(0, 0, sort, sort, 0, 60), 14);
+            Check.due("all 60 go over", x.which(0, 1, sort, sort, 0, 60), 1);
+            Check.due("the last goes over", x.which(1, 0, sort, sort, 59, 1), 11);
+            Check.due("the first goes over", x.which(1, 0, sort, sort, 0, 1), 10);
+            Check.due("all but the last go over", x.which(0, 1, sort, sort, 0, 59), 10);
+            Check.dueFault(x, "none behind the last", x.which(1, 1, sort, sort, 60, 0), 15, 0);
+            Check.dueFault(x, "one behind the last", x.which(1, 1, sort, sort, 60, 1), -13, 3);
+            Check.dueFault(x, "none, one beyond", x.which(1, 1, sort, sort, 61, 0), -13, 3);
+        }
+        x.sheet(3, 1, 0);
+        Check.dueFault(x, "a row of none", x.which(0, 0, 3, 1, 0, 0), 15, 0);
+        Check.dueFault(x, "a row of none, to another LIE", x.which(0, 1, 3, 1, 0, 0), 0, 0);
+        Check.dueFault(x, "a row of none, from 1 on", x.which(0, 0, 3, 1, 1, 0), -13, 3);
     }
 
     private static void refusalsAndFaults() {

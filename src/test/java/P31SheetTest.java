@@ -31,6 +31,26 @@ final class P31SheetTest {
         x.lose(1);
         x.sheet(1, 0, 3);
         Check.due("cell 2 behind lose", x.cell(1, 2, 0), 0);
+        allLengths();
         Check.end();
+    }
+
+    /** 0 .. 60 cells of each SORT, all of them 0 at first though there were others ahead. */
+    private static void allLengths() {
+        for (int n = 0; n <= 60; n++) {
+            NutsUp x = new NutsUp();
+            int sort = n % 3;
+            x.sheet(3, 2, 60);
+            for (int i = 0; i < 60; i++) {
+                x.put(3, i, -1);
+            }
+            Check.dueFault(x, "sheet(3, " + sort + ", " + n + ")", x.sheet(3, sort, n), 1, 0);
+            for (int i = 0; i < n; i++) {
+                Check.due("cell " + i + " of " + n, x.cell(3, i, sort), 0);
+            }
+            Check.dueFault(x, "cell " + n + " of " + n, x.cell(3, n, sort), Check.LOST, 3);
+            Check.dueFault(x, "put(3, " + n + ", 1) of " + n, x.put(3, n, 1), -13, 3);
+            Check.due("put(3, " + (n - 1) + ", 1) of " + n, x.put(3, n - 1, 1), n == 0 ? -13 : 1);
+        }
     }
 }

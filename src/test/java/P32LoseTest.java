@@ -15,6 +15,13 @@ final class P32LoseTest {
         Check.dueFault(x, "put(0, 0, 1)", x.put(0, 0, 1), -11, 1);
         Check.dueFault(x, "cell(0, 0, 1)", x.cell(0, 0, 1), Check.LOST, 1);
         Check.due("cell(1, 0, 1)", x.cell(1, 0, 1), 6);
+        for (int k = 0; k < 4; k++) {
+            x.sheet(k, 0, k == 0 ? 0 : 60);
+            Check.due("lose(" + k + ")", x.lose(k), 1);
+            Check.due("lose(" + k + ") once more", x.lose(k), 0);
+        }
+        Check.due("lose(MIN)", x.lose(Integer.MIN_VALUE), -1);
+        Check.due("lose(MAX)", x.lose(Integer.MAX_VALUE), -1);
         Check.end();
     }
 }

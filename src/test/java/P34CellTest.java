@@ -21,6 +21,29 @@ final class P34CellTest {
         Check.dueFault(x, "cell(4, 0, 0)", x.cell(4, 0, 0), lost, 0);
         x.put(2, 0, 0);
         Check.dueFault(x, "cell(-1, 0, 0)", x.cell(-1, 0, 0), lost, 0);
+        edges();
         Check.end();
+    }
+
+    /** The first and the last cell, the least and the greatest of each SORT; beside them there is none. */
+    private static void edges() {
+        int[] least = {Byte.MIN_VALUE, Short.MIN_VALUE, Integer.MIN_VALUE};
+        int[] greatest = {Byte.MAX_VALUE, Short.MAX_VALUE, Integer.MAX_VALUE};
+        for (int sort = 0; sort < 3; sort++) {
+            NutsUp x = new NutsUp();
+            x.sheet(sort, sort, 60);
+            x.put(sort, 0, least[sort]);
+            x.put(sort, 59, greatest[sort]);
+            Check.dueFault(x, "the first", x.cell(sort, 0, sort), least[sort], 0);
+            Check.dueFault(x, "the last", x.cell(sort, 59, sort), greatest[sort], 0);
+            Check.dueFault(x, "one beyond", x.cell(sort, 60, sort), Check.LOST, 3);
+            Check.dueFault(x, "one ahead", x.cell(sort, -1, sort), Check.LOST, 3);
+            Check.dueFault(x, "MIN", x.cell(sort, Integer.MIN_VALUE, sort), Check.LOST, 3);
+            Check.dueFault(x, "MAX", x.cell(sort, Integer.MAX_VALUE, sort), Check.LOST, 3);
+            x.put(sort, 0, least[sort] - 1);
+            x.put(sort, 59, greatest[sort] + 1);
+            Check.due("one below the least", x.cell(sort, 0, sort), greatest[sort]);
+            Check.due("one above the greatest", x.cell(sort, 59, sort), least[sort]);
+        }
     }
 }

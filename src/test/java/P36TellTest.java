@@ -9,6 +9,14 @@ final class P36TellTest {
         Check.due("tell(3)", x.tell(3), -1);
         Check.due("tell(-1)", x.tell(-1), -1);
         Check.due("trace() as it was", x.trace(), 0);
+        NutsUp edges = Check.nuts("g11;g99;g11l;g99l;g11lo;g99lo;g51");
+        int[] due = {1, 9, 101, 109, 102, 118, 5};
+        for (int g = 0; g < 7; g++) {
+            Check.due("tell(" + g + ") of SIZE 1 or 9", edges.tell(g), due[g]);
+        }
+        Check.due("tell(7)", edges.tell(7), -1);
+        Check.due("tell(MIN)", edges.tell(Integer.MIN_VALUE), -1);
+        Check.due("tell(MAX)", edges.tell(Integer.MAX_VALUE), -1);
         Check.end();
     }
 

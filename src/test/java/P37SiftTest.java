@@ -15,6 +15,14 @@ final class P37SiftTest {
         Check.due("sift(5)", x.sift(5), -1);
         Check.due("sift(-1)", x.sift(-1), -1);
         Check.due("trace() as it was", x.trace(), trace);
+        NutsUp seven = Check.nuts("g11;g11l;g11;g11l;g11;g11l;g11");
+        seven.turn();
+        for (int g = 0; g < 7; g++) {
+            Check.due("sift(" + g + ") of seven", seven.sift(g), g);
+        }
+        Check.due("sift(7)", seven.sift(7), -1);
+        Check.due("sift(MIN)", seven.sift(Integer.MIN_VALUE), -1);
+        Check.due("sift(MAX)", seven.sift(Integer.MAX_VALUE), -1);
         Check.end();
     }
 }
